@@ -96,6 +96,19 @@ final class Model {
         return row;
     }
 
+    /** In how many symbols a row differs from the nearest word; -1 if in more than 2. */
+    static int errorsOf(int[] row) {
+        int[] faults = FAULTS_OF_SUMS[sums(row)];
+        if (faults == null) {
+            return -1;
+        }
+        int errors = 0;
+        for (int fault : faults) {
+            errors += fault != 0 ? 1 : 0;
+        }
+        return errors;
+    }
+
     /** A page with these 44 symbols of data, dot [x][y]. */
     static boolean[][] page(int[] data) {
         boolean[][] dots = new boolean[SIDE][SIDE];
@@ -259,10 +272,9 @@ final class Model {
         for (int r = 0; r < 4; r++) {
             int[] row = rowOf(dots, r);
             int[] faults = FAULTS_OF_SUMS[sums(row)];
-            lastErrors[r] = faults == null ? -1 : 0;
+            lastErrors[r] = errorsOf(row);
             past |= faults == null;
             for (int i = 0; faults != null && i < 15; i++) {
-                lastErrors[r] += faults[i] != 0 ? 1 : 0;
                 row[i] ^= faults[i];
             }
             System.arraycopy(row, 4, data, 11 * r, 11);

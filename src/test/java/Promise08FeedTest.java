@@ -7,6 +7,7 @@ public final class Promise08FeedTest {
         everyPageAndTurn(check);
         turnedPages(check);
         frameFaults(check);
+        anyEightFrameFaults(check);
         oneOrTwoFaultsInARow(check);
         threeFaultsInARow(check);
         unusedBlocks(check);
@@ -73,6 +74,33 @@ public final class Promise08FeedTest {
             check.same("errors then", Vaults.errorsOf(vault), "-2 -2 -2 -2");
         }
         check.due("nothing was kept of unreadable pages", () -> vault.missing(), -1);
+    }
+
+    /** Other turns than the right one may come nearer by the faults, but never near enough. */
+    private static void anyEightFrameFaults(Check check) {
+        for (int start = 0; start < 68; start++) {
+            for (int stride = 1; stride <= 8; stride++) {
+                DotVault vault = Vaults.printed(20);
+                for (int i = 0; i < 8; i++) {
+                    flipFrameDot(vault, (start + i * stride) % 68);
+                }
+                for (int t = 0; t < 4; t++) {
+                    int turns = t;
+                    check.due("faults from " + start + " on by " + stride, () -> vault.feed(1, turns), 1);
+                    check.same("errors then", Vaults.errorsOf(vault), "0 0 0 0");
+                }
+            }
+        }
+    }
+
+    private static void flipFrameDot(DotVault vault, int place) {
+        int along = place % 17;
+        switch (place / 17) {
+            case 0 -> vault.flip(1, along, 0);
+            case 1 -> vault.flip(1, 17, along);
+            case 2 -> vault.flip(1, 17 - along, 17);
+            default -> vault.flip(1, 0, 17 - along);
+        }
     }
 
     private static void oneOrTwoFaultsInARow(Check check) {

@@ -3,6 +3,7 @@ public final class Promise09ErrorsTest {
     public static void main(String[] args) {
         Check check = new Check("promise 9");
         eachRow(check);
+        everySum(check);
         ofTheLastPageAlone(check);
         wrongArguments(check);
         check.end();
@@ -18,6 +19,28 @@ public final class Promise09ErrorsTest {
         for (int turns = 0; turns < 4; turns++) {
             vault.feed(2, turns);
             check.due("1, 0, 2 and past", () -> Vaults.errorsOf(vault), "1 0 2 -1");
+        }
+    }
+
+    /** Whatever is added to c0 .. c3 of a word: with all 65536 of these its sums take every value. */
+    private static void everySum(Check check) {
+        for (int from = 0; from < 65536; from += 128) {
+            DotVault vault = Vaults.printed(20);
+            int r = from / 128 % 4;
+            int added = 0;
+            for (int step = from; step < from + 128; step++) {
+                // From each such number to the next but one bit changes, so few calls are needed.
+                int wanted = step ^ step >> 1;
+                for (int i = 0; i < 4; i++) {
+                    Vaults.addToSymbol(vault, 0, r, i, (added ^ wanted) >> 4 * i & 15);
+                }
+                added = wanted;
+                int[] row = {added & 15, added >> 4 & 15, added >> 8 & 15, added >> 12, 0, 0, 0, 0, 0, 0, 0, 0, 0, 0, 0};
+                int errors = Model.errorsOf(row);
+                int read = vault.feed(0, step % 4);
+                check.same("errors of a row with " + added, vault.errors(r), errors);
+                check.same("unreadable for it", errors != -1 || read == -1, true);
+            }
         }
     }
 
