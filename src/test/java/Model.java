@@ -41,6 +41,16 @@ final class Model {
     private int[] lastErrors = {-2, -2, -2, -2};
     private int[] rebuilt = {};
 
+    /** A model whose document of these bytes is printed. */
+    static Model printed(List<Integer> bytes) {
+        Model model = new Model();
+        for (int b : bytes) {
+            model.load(b);
+        }
+        model.print();
+        return model;
+    }
+
     static int product(int a, int b) {
         int raw = 0;
         for (int k = 0; k < 4; k++) {

@@ -2,7 +2,7 @@
 public final class Promise01NewObjectTest {
     public static void main(String[] args) {
         Check check = new Check("promise 1");
-        DotVault vault = new DotVault();
+        Vault vault = new Vault();
         check.due("wipe()", () -> vault.wipe(), 0);
         check.throwsState("print()", () -> vault.print());
         check.throwsArgument("dot(0, 0, 0)", () -> vault.dot(0, 0, 0));
@@ -20,10 +20,10 @@ public final class Promise01NewObjectTest {
     }
 
     private static void twoObjectsShareNothing(Check check) {
-        DotVault used = Vaults.printed(80);
+        Vault used = Vaults.printed(80);
         Vaults.feedAll(used, 0, 1, 2, 3);
         used.rebuild();
-        DotVault fresh = new DotVault();
+        Vault fresh = new Vault();
         check.due("missing() beside a used object", () -> fresh.missing(), -1);
         check.due("errors beside a used object", () -> fresh.errors(0), -2);
         check.throwsArgument("dot beside a used object", () -> fresh.dot(0, 0, 0));

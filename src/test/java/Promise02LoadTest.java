@@ -12,7 +12,7 @@ public final class Promise02LoadTest {
     }
 
     private static void countsUpToEighty(Check check) {
-        DotVault vault = new DotVault();
+        Vault vault = new Vault();
         for (int i = 0; i < 80; i++) {
             int b = Vaults.byteAt(i);
             check.due("load " + i, () -> vault.load(b), i + 1);
@@ -28,7 +28,7 @@ public final class Promise02LoadTest {
     }
 
     private static void refusesWhatIsNoByte(Check check) {
-        DotVault vault = new DotVault();
+        Vault vault = new Vault();
         for (int b : new int[] {-1, 256, 257, 1000, -256, Integer.MIN_VALUE, Integer.MAX_VALUE}) {
             check.throwsArgument("load(" + b + ")", () -> vault.load(b));
         }
@@ -39,7 +39,7 @@ public final class Promise02LoadTest {
     private static void takesEveryByte(Check check) {
         for (int b = 0; b < 256; b++) {
             int wanted = b;
-            DotVault vault = new DotVault();
+            Vault vault = new Vault();
             vault.load(b);
             vault.print();
             vault.feed(0, 0);
@@ -48,10 +48,9 @@ public final class Promise02LoadTest {
     }
 
     private static void leavesPrintedPages(Check check) {
-        DotVault vault = Vaults.printed(20);
-        String before = Vaults.picture(Vaults.dots(vault, 0));
+        Vault vault = Vaults.printed(20);
         check.due("load after print", () -> vault.load(9), 21);
-        check.due("page 0 after load", () -> Vaults.picture(Vaults.dots(vault, 0)), before);
+        check.due("page 0 after load", () -> Vaults.picture(vault, 0), Vaults.cleanPicture(20, 0));
         check.throwsArgument("page 3 after load", () -> vault.dot(3, 0, 0));
     }
 }

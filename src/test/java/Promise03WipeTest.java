@@ -5,7 +5,7 @@ public final class Promise03WipeTest {
     public static void main(String[] args) {
         Check check = new Check("promise 3");
         for (int length : new int[] {1, 20, 41, 80}) {
-            DotVault vault = Vaults.loaded(length);
+            Vault vault = Vaults.loaded(length);
             check.due("wipe() of " + length, () -> vault.wipe(), length);
             check.due("wipe() again", () -> vault.wipe(), 0);
             check.throwsState("print() after wipe()", () -> vault.print());
@@ -17,14 +17,15 @@ public final class Promise03WipeTest {
     }
 
     private static void pagesAndReaderStay(Check check) {
-        DotVault vault = Vaults.printed(45);
+        Vault vault = Vaults.printed(45);
         Vaults.feedAll(vault, 0, 1, 3);
         vault.rebuild();
-        Vaults.addToSymbol(vault, 2, 1, 5, 9);
-        String page = Vaults.picture(Vaults.dots(vault, 2));
+        vault.flip(2, 11, 5);
+        boolean[][] page = Vaults.cleanDots(45, 2);
+        page[11][5] = !page[11][5];
         vault.feed(2, 0);
         vault.wipe();
-        check.due("page 2 after wipe()", () -> Vaults.picture(Vaults.dots(vault, 2)), page);
+        check.due("page 2 after wipe()", () -> Vaults.picture(vault, 2), Vaults.picture(page));
         check.due("missing() after wipe()", () -> vault.missing(), 1);
         check.due("errors after wipe()", () -> Vaults.errorsOf(vault), "0 1 0 0");
         check.due("out(44) after wipe()", () -> vault.out(44), Vaults.byteAt(44));
@@ -33,11 +34,11 @@ public final class Promise03WipeTest {
     }
 
     private static void oldBytesAreGone(Check check) {
-        DotVault vault = Vaults.loaded(80);
+        Vault vault = Vaults.loaded(80);
         vault.wipe();
         vault.load(1);
         check.due("print()", () -> vault.print(), 3);
-        check.due("page 0", () -> Vaults.picture(Vaults.dots(vault, 0)),
+        check.due("page 0", () -> Vaults.picture(vault, 0),
             Vaults.picture(Model.page(Model.data(List.of(1))[0])));
     }
 }

@@ -15,34 +15,31 @@ public final class Promise04PrintTest {
 
     private static void everyLengthIsPrinted(Check check) {
         for (int length = 1; length <= 80; length++) {
-            DotVault vault = Vaults.loaded(length);
             int pages = (length - 1) / 20 + 3;
-            check.due("print() of " + length, () -> vault.print(), pages);
-            int[][] data = Model.data(Vaults.bytes(length));
             for (int p = 0; p < pages; p++) {
                 int page = p;
-                check.due("page " + page + " of " + length, () -> Vaults.picture(Vaults.dots(vault, page)),
-                    Vaults.picture(Model.page(data[page])));
+                Vault vault = Vaults.loaded(length);
+                check.due("print() of " + length, () -> vault.print(), pages);
+                check.due("page " + page + " of " + length, () -> Vaults.picture(vault, page),
+                    Vaults.cleanPicture(length, page));
+                check.throwsArgument("the page behind the last of " + length, () -> vault.dot(pages, 0, 0));
             }
-            check.throwsArgument("the page behind the last of " + length, () -> vault.dot(pages, 0, 0));
         }
     }
 
     /** The document of the one byte 1: c5 (n), c6 (the length) and c8 (the byte) of row 0 are 1. */
     private static void knownPage(Check check) {
-        DotVault vault = new DotVault();
+        Vault vault = new Vault();
         vault.load(1);
         vault.print();
-        check.same("row 0", Arrays.toString(Model.rowOf(Vaults.dots(vault, 0), 0)),
-            "[13, 0, 10, 8, 0, 1, 1, 0, 1, 0, 0, 0, 0, 0, 0]");
-        check.same("row 1", Arrays.toString(Model.rowOf(Vaults.dots(vault, 0), 1)),
-            "[0, 0, 0, 0, 0, 0, 0, 0, 0, 0, 0, 0, 0, 0, 0]");
+        boolean[][] dots = Vaults.dots(vault, 0);
+        check.same("row 0", Arrays.toString(Model.rowOf(dots, 0)), "[13, 0, 10, 8, 0, 1, 1, 0, 1, 0, 0, 0, 0, 0, 0]");
+        check.same("row 1", Arrays.toString(Model.rowOf(dots, 1)), "[0, 0, 0, 0, 0, 0, 0, 0, 0, 0, 0, 0, 0, 0, 0]");
     }
 
     private static void rowsAreWords(Check check) {
-        DotVault vault = Vaults.printed(73);
         for (int page = 0; page < 6; page++) {
-            boolean[][] dots = Vaults.dots(vault, page);
+            boolean[][] dots = Vaults.dots(Vaults.printed(73), page);
             for (int r = 0; r < 4; r++) {
                 check.same("the sums of row " + r + " of page " + page, Model.sums(Model.rowOf(dots, r)), 0);
             }
@@ -57,28 +54,29 @@ public final class Promise04PrintTest {
     }
 
     private static void printingAgain(Check check) {
-        DotVault vault = Vaults.printed(61);
-        vault.blot(0, 0, 0, 18, 18, true);
-        vault.blot(5, 0, 0, 18, 18, false);
-        check.due("print() again", () -> vault.print(), 6);
-        int[][] data = Model.data(Vaults.bytes(61));
-        check.due("page 0 anew", () -> Vaults.picture(Vaults.dots(vault, 0)), Vaults.picture(Model.page(data[0])));
-        check.due("page 5 anew", () -> Vaults.picture(Vaults.dots(vault, 5)), Vaults.picture(Model.page(data[5])));
-        check.due("the document stays", () -> vault.load(4), 62);
+        for (int page : new int[] {0, 5}) {
+            Vault vault = Vaults.printed(61);
+            vault.blot(page, 0, 0, 18, 18, page == 0);
+            check.due("print() again", () -> vault.print(), 6);
+            check.due("page " + page + " anew", () -> Vaults.picture(vault, page), Vaults.cleanPicture(61, page));
+            check.due("the document stays", () -> vault.load(4), 62);
+        }
+        Vault vault = Vaults.printed(61);
         Vaults.printAnew(vault, List.of(200, 100));
         check.throwsArgument("a page that is gone", () -> vault.dot(3, 0, 0));
         check.throwsArgument("a page that is gone, fed", () -> vault.feed(5, 0));
-        check.due("page 2", () -> Vaults.picture(Vaults.dots(vault, 2)),
+        check.due("page 2", () -> Vaults.picture(vault, 2),
             Vaults.picture(Model.page(Model.data(List.of(200, 100))[2])));
     }
 
     private static void emptyDocument(Check check) {
-        DotVault vault = Vaults.printed(30);
+        Vault vault = Vaults.printed(30);
         vault.flip(1, 4, 4);
-        String page = Vaults.picture(Vaults.dots(vault, 1));
+        boolean[][] page = Vaults.cleanDots(30, 1);
+        page[4][4] = !page[4][4];
         vault.wipe();
         check.throwsState("print() of nothing", () -> vault.print());
-        check.due("the pages stay then", () -> Vaults.picture(Vaults.dots(vault, 1)), page);
+        check.due("the pages stay then", () -> Vaults.picture(vault, 1), Vaults.picture(page));
         check.due("all of them", () -> vault.feed(3, 0), 3);
     }
 }

@@ -9,7 +9,7 @@ public final class Promise05DotTest {
     }
 
     private static void theFrame(Check check) {
-        DotVault vault = Vaults.printed(25);
+        Vault vault = Vaults.printed(25);
         for (int p = 0; p < 4; p++) {
             int page = p;
             for (int z = 0; z < 18; z++) {
@@ -27,7 +27,7 @@ public final class Promise05DotTest {
     /** Byte 0 of page 0 is c8 and c9 of row 0, in the blocks 32 and 36. */
     private static void theBitsOfABlock(Check check) {
         for (int bit = 0; bit < 8; bit++) {
-            DotVault vault = new DotVault();
+            Vault vault = new Vault();
             vault.load(1 << bit);
             vault.print();
             for (int other = 0; other < 8; other++) {
@@ -39,7 +39,7 @@ public final class Promise05DotTest {
     }
 
     private static void noSuchPageOrDot(Check check) {
-        DotVault vault = Vaults.printed(20);
+        Vault vault = Vaults.printed(20);
         int[] wrong = {-1, 18, 19, 324, Integer.MIN_VALUE, Integer.MAX_VALUE};
         for (int z : wrong) {
             check.throwsArgument("dot(0, " + z + ", 3)", () -> vault.dot(0, z, 3));

@@ -3,16 +3,17 @@ public final class Promise06BlotTest {
     public static void main(String[] args) {
         Check check = new Check("promise 6");
         countsAndColours(check);
-        allPlacesAndSizes(check);
+        for (int from = 0; from < 324; from += 108) {
+            placesAndSizes(check, from);
+        }
         wrongArguments(check);
         check.end();
     }
 
     private static void countsAndColours(Check check) {
-        DotVault vault = Vaults.printed(40);
-        String other = Vaults.picture(Vaults.dots(vault, 1));
+        Vault vault = Vaults.printed(40);
         int black = 0;
-        for (boolean[] column : Vaults.dots(vault, 0)) {
+        for (boolean[] column : Vaults.cleanDots(40, 0)) {
             for (boolean dot : column) {
                 black += dot ? 1 : 0;
             }
@@ -27,17 +28,13 @@ public final class Promise06BlotTest {
         check.due("dot(0, 6, 9)", () -> vault.dot(0, 6, 9), false);
         check.due("dot(0, 4, 6)", () -> vault.dot(0, 4, 6), false);
         check.due("blot partly black", () -> vault.blot(0, 4, 5, 4, 5, true), 14);
-        check.due("the other page", () -> Vaults.picture(Vaults.dots(vault, 1)), other);
+        check.due("the other page", () -> Vaults.picture(vault, 1), Vaults.cleanPicture(40, 1));
     }
 
-    private static void allPlacesAndSizes(Check check) {
-        DotVault vault = Vaults.printed(40);
-        Model model = new Model();
-        for (int b : Vaults.bytes(40)) {
-            model.load(b);
-        }
-        model.print();
-        for (int place = 0; place < 324; place++) {
+    private static void placesAndSizes(Check check, int from) {
+        Vault vault = Vaults.printed(40);
+        Model model = Model.printed(Vaults.bytes(40));
+        for (int place = from; place < from + 108; place++) {
             int x = place % 18;
             int y = place / 18;
             int wide = 1 + place * 7 % 18;
@@ -54,8 +51,7 @@ public final class Promise06BlotTest {
     }
 
     private static void wrongArguments(Check check) {
-        DotVault vault = Vaults.printed(40);
-        String before = Vaults.picture(Vaults.dots(vault, 0));
+        Vault vault = Vaults.printed(40);
         for (int z : new int[] {-1, 18, Integer.MIN_VALUE, Integer.MAX_VALUE}) {
             check.throwsArgument("x " + z, () -> vault.blot(0, z, 1, 2, 2, true));
             check.throwsArgument("y " + z, () -> vault.blot(0, 1, z, 2, 2, true));
@@ -67,6 +63,6 @@ public final class Promise06BlotTest {
         for (int page : new int[] {-1, 4, 5, 6, Integer.MIN_VALUE, Integer.MAX_VALUE}) {
             check.throwsArgument("page " + page, () -> vault.blot(page, 1, 1, 2, 2, true));
         }
-        check.due("nothing is done then", () -> Vaults.picture(Vaults.dots(vault, 0)), before);
+        check.due("nothing is done then", () -> Vaults.picture(vault, 0), Vaults.cleanPicture(40, 0));
     }
 }

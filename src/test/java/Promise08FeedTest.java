@@ -21,40 +21,39 @@ public final class Promise08FeedTest {
 
     private static void everyPageAndTurn(Check check) {
         for (int length : new int[] {1, 20, 21, 40, 41, 60, 61, 80}) {
-            DotVault vault = Vaults.printed(length);
             int pages = (length - 1) / 20 + 3;
             for (int p = 0; p < pages; p++) {
                 int page = p;
-                String before = Vaults.picture(Vaults.dots(vault, page));
+                Vault vault = Vaults.printed(length);
                 for (int t = 0; t < 4; t++) {
                     int turns = t;
                     check.due("feed(" + page + ", " + turns + ") of " + length, () -> vault.feed(page, turns), page);
                 }
-                check.same("page " + page + " stays", Vaults.picture(Vaults.dots(vault, page)), before);
+                check.same("page " + page + " stays", Vaults.picture(vault, page), Vaults.cleanPicture(length, page));
             }
         }
     }
 
     /** A sheet that was itself drawn turned is read as well. */
     private static void turnedPages(Check check) {
-        DotVault vault = Vaults.printed(33);
-        boolean[][] dots = Vaults.dots(vault, 1);
+        boolean[][] dots = Vaults.cleanDots(33, 1);
         for (int drawn = 1; drawn < 4; drawn++) {
+            Vault vault = Vaults.printed(33);
             dots = Model.turn(dots);
-            Vaults.draw(vault, 0, dots);
+            Vaults.redraw(vault, 0, Vaults.cleanDots(33, 0), dots);
             for (int t = 0; t < 4; t++) {
                 int turns = t;
                 check.due("turned " + drawn + " and " + turns, () -> vault.feed(0, turns), 1);
                 check.same("its errors", Vaults.errorsOf(vault), "0 0 0 0");
             }
+            Vaults.feedAll(vault, 2);
+            check.due("what was read", () -> Vaults.rebuilt(vault), Vaults.bytes(33));
         }
-        Vaults.feedAll(vault, 2);
-        check.due("what was read", () -> Vaults.rebuilt(vault), Vaults.bytes(33));
     }
 
     private static void frameFaults(Check check) {
         for (int side = 0; side < 4; side++) {
-            DotVault vault = Vaults.printed(20);
+            Vault vault = Vaults.printed(20);
             for (int z = 1; z <= 8; z++) {
                 vault.flip(1, side == 0 ? 0 : side == 1 ? 17 : z, side == 2 ? 0 : side == 3 ? 17 : z);
             }
@@ -67,7 +66,7 @@ public final class Promise08FeedTest {
             vault.flip(1, 1, 1);
             check.due("8 faults and one inside", () -> vault.feed(1, turns), 1);
         }
-        DotVault vault = Vaults.printed(20);
+        Vault vault = Vaults.printed(20);
         for (boolean black : new boolean[] {true, false}) {
             vault.blot(0, 0, 0, 18, 18, black);
             check.due("all dots alike", () -> vault.feed(0, 0), -1);
@@ -80,7 +79,7 @@ public final class Promise08FeedTest {
     private static void anyEightFrameFaults(Check check) {
         for (int start = 0; start < 68; start++) {
             for (int stride = 1; stride <= 8; stride++) {
-                DotVault vault = Vaults.printed(20);
+                Vault vault = Vaults.printed(20);
                 for (int i = 0; i < 8; i++) {
                     flipFrameDot(vault, (start + i * stride) % 68);
                 }
@@ -93,7 +92,7 @@ public final class Promise08FeedTest {
         }
     }
 
-    private static void flipFrameDot(DotVault vault, int place) {
+    private static void flipFrameDot(Vault vault, int place) {
         int along = place % 17;
         switch (place / 17) {
             case 0 -> vault.flip(1, along, 0);
@@ -104,8 +103,8 @@ public final class Promise08FeedTest {
     }
 
     private static void oneOrTwoFaultsInARow(Check check) {
-        DotVault vault = Vaults.printed(64);
         for (int i = 0; i < 15; i++) {
+            Vault vault = Vaults.printed(64);
             for (int k = i; k < 15; k++) {
                 int page = (i + k) % 6;
                 int r = (i * k) % 4;
@@ -124,6 +123,11 @@ public final class Promise08FeedTest {
                 vault.reset();
             }
         }
+        twoFaultsInEachRow(check);
+    }
+
+    private static void twoFaultsInEachRow(Check check) {
+        Vault vault = Vaults.printed(64);
         for (int page = 0; page < 4; page++) {
             for (int r = 0; r < 4; r++) {
                 Vaults.addToSymbol(vault, page, r, 4 + r, 15);
@@ -136,7 +140,7 @@ public final class Promise08FeedTest {
     }
 
     private static void threeFaultsInARow(Check check) {
-        DotVault vault = Vaults.printed(64);
+        Vault vault = Vaults.printed(64);
         for (int r = 0; r < 4; r++) {
             int page = r;
             Vaults.ruinRow(vault, page, r);
@@ -149,7 +153,7 @@ public final class Promise08FeedTest {
 
     /** Three symbols of a word of weight 5: the nearest word is then that one, two symbols away. */
     private static void nearestWordMayBeAnother(Check check) {
-        DotVault vault = Vaults.printed(64);
+        Vault vault = Vaults.printed(64);
         int[] word = Model.word(new int[] {0, 0, 0, 0, 1, 0, 0, 0, 0, 0, 0});
         Vaults.addToSymbol(vault, 2, 3, 8, word[8]);
         Vaults.addToSymbol(vault, 2, 3, 0, word[0]);
@@ -159,7 +163,7 @@ public final class Promise08FeedTest {
     }
 
     private static void unusedBlocks(Check check) {
-        DotVault vault = Vaults.printed(20);
+        Vault vault = Vaults.printed(20);
         vault.blot(0, 9, 15, 8, 2, true);
         check.due("blocks 60 .. 63 black", () -> vault.feed(0, 3), 0);
         check.due("no errors", () -> Vaults.errorsOf(vault), "0 0 0 0");
@@ -171,9 +175,9 @@ public final class Promise08FeedTest {
             {5, 3, 60}, {0, 1, 0}, {0, 1, 21}, {0, 2, 20}, {0, 2, 41}, {0, 3, 40}, {0, 3, 61}, {0, 4, 60},
             {0, 4, 81}, {0, 4, 255},
         };
-        DotVault vault = Vaults.printed(20);
         for (int[] head : heads) {
-            Vaults.forge(vault, 1, head[0], head[1], head[2], 7);
+            Vault vault = Vaults.printed(20);
+            Vaults.changeHead(vault, 1, new int[] {1, 1, 20}, head);
             String what = "number " + head[0] + ", n " + head[1] + ", length " + head[2];
             check.due(what, () -> vault.feed(1, 1), -1);
             check.due("errors of " + what, () -> Vaults.errorsOf(vault), "0 0 0 0");
@@ -181,15 +185,15 @@ public final class Promise08FeedTest {
         }
         int[][] good = {{2, 1, 20}, {2, 1, 1}, {3, 2, 21}, {0, 2, 40}, {4, 3, 41}, {0, 3, 60}, {5, 4, 61}, {5, 4, 80}};
         for (int[] head : good) {
-            Vaults.forge(vault, 1, head[0], head[1], head[2], 7);
+            Vault vault = Vaults.printed(20);
+            Vaults.changeHead(vault, 1, new int[] {1, 1, 20}, head);
             check.due("n " + head[1] + ", length " + head[2], () -> vault.feed(1, 1), head[0]);
-            vault.reset();
         }
     }
 
     private static void numberThatTheDataTell(Check check) {
-        DotVault vault = Vaults.printed(80);
-        Vaults.draw(vault, 0, Vaults.dots(vault, 3));
+        Vault vault = Vaults.printed(80);
+        Vaults.redraw(vault, 0, Vaults.cleanDots(80, 0), Vaults.cleanDots(80, 3));
         check.due("page 0 drawn as page 3", () -> vault.feed(0, 1), 3);
         check.due("missing() then", () -> vault.missing(), 5);
         check.due("page 3 itself", () -> vault.feed(3, 1), 3);
@@ -197,7 +201,7 @@ public final class Promise08FeedTest {
     }
 
     private static void strangePages(Check check) {
-        DotVault vault = Vaults.printed(20);
+        Vault vault = Vaults.printed(20);
         vault.feed(0, 0);
         Vaults.printAnew(vault, Vaults.bytes(19));
         check.due("another length, number kept", () -> vault.feed(0, 0), -2);
@@ -214,7 +218,7 @@ public final class Promise08FeedTest {
     }
 
     private static void keptInAnyCase(Check check) {
-        DotVault vault = new DotVault();
+        Vault vault = new Vault();
         vault.load(10);
         vault.print();
         vault.feed(0, 0);
@@ -224,7 +228,7 @@ public final class Promise08FeedTest {
     }
 
     private static void wrongArguments(Check check) {
-        DotVault vault = Vaults.printed(20);
+        Vault vault = Vaults.printed(20);
         Vaults.addToSymbol(vault, 0, 0, 0, 1);
         vault.feed(0, 0);
         for (int page : new int[] {-1, 3, 5, 6, Integer.MIN_VALUE, Integer.MAX_VALUE}) {

@@ -10,7 +10,7 @@ public final class Promise09ErrorsTest {
     }
 
     private static void eachRow(Check check) {
-        DotVault vault = Vaults.printed(50);
+        Vault vault = Vaults.printed(50);
         Vaults.addToSymbol(vault, 2, 0, 14, 3);
         Vaults.addToSymbol(vault, 2, 2, 0, 15);
         Vaults.addToSymbol(vault, 2, 2, 7, 1);
@@ -25,7 +25,7 @@ public final class Promise09ErrorsTest {
     /** Whatever is added to c0 .. c3 of a word: with all 65536 of these its sums take every value. */
     private static void everySum(Check check) {
         for (int from = 0; from < 65536; from += 128) {
-            DotVault vault = Vaults.printed(20);
+            Vault vault = Vaults.printed(20);
             int r = from / 128 % 4;
             int added = 0;
             for (int step = from; step < from + 128; step++) {
@@ -35,8 +35,7 @@ public final class Promise09ErrorsTest {
                     Vaults.addToSymbol(vault, 0, r, i, (added ^ wanted) >> 4 * i & 15);
                 }
                 added = wanted;
-                int[] row = {added & 15, added >> 4 & 15, added >> 8 & 15, added >> 12, 0, 0, 0, 0, 0, 0, 0, 0, 0, 0, 0};
-                int errors = Model.errorsOf(row);
+                int errors = Model.errorsOf(new int[] {added & 15, added >> 4 & 15, added >> 8 & 15, added >> 12});
                 int read = vault.feed(0, step % 4);
                 check.same("errors of a row with " + added, vault.errors(r), errors);
                 check.same("unreadable for it", errors != -1 || read == -1, true);
@@ -45,7 +44,7 @@ public final class Promise09ErrorsTest {
     }
 
     private static void ofTheLastPageAlone(Check check) {
-        DotVault vault = Vaults.printed(50);
+        Vault vault = Vaults.printed(50);
         Vaults.addToSymbol(vault, 0, 1, 3, 4);
         vault.feed(0, 0);
         check.due("page 0", () -> Vaults.errorsOf(vault), "0 1 0 0");
@@ -65,7 +64,7 @@ public final class Promise09ErrorsTest {
     }
 
     private static void wrongArguments(Check check) {
-        DotVault vault = Vaults.printed(50);
+        Vault vault = Vaults.printed(50);
         for (int round = 0; round < 2; round++) {
             for (int row : new int[] {-1, 4, 5, Integer.MIN_VALUE, Integer.MAX_VALUE}) {
                 check.throwsArgument("errors(" + row + ")", () -> vault.errors(row));

@@ -3,7 +3,7 @@ public final class Promise10MissingTest {
     public static void main(String[] args) {
         Check check = new Check("promise 10");
         for (int n = 1; n <= 4; n++) {
-            DotVault vault = Vaults.printed(20 * n);
+            Vault vault = Vaults.printed(20 * n);
             check.due("missing() before any feed", () -> vault.missing(), -1);
             for (int page = n + 1; page >= 0; page--) {
                 int left = page;
@@ -18,7 +18,7 @@ public final class Promise10MissingTest {
     }
 
     private static void notThePrintedDocument(Check check) {
-        DotVault vault = Vaults.printed(80);
+        Vault vault = Vaults.printed(80);
         vault.feed(4, 0);
         Vaults.printAnew(vault, Vaults.bytes(5));
         check.due("missing() after another print", () -> vault.missing(), 5);

@@ -1,9 +1,11 @@
+import java.util.Collections;
+
 /** Promise 12: byte i of what was rebuilt last. */
 public final class Promise12OutTest {
     public static void main(String[] args) {
         Check check = new Check("promise 12");
         for (int length : new int[] {1, 19, 20, 21, 40, 59, 80}) {
-            DotVault vault = Vaults.printed(length);
+            Vault vault = Vaults.printed(length);
             Vaults.feedAll(vault, 1, 2);
             for (int page = 3; page < (length + 19) / 20 + 2; page++) {
                 vault.feed(page, 0);
@@ -23,14 +25,16 @@ public final class Promise12OutTest {
     }
 
     private static void whatWasRebuiltLast(Check check) {
-        DotVault vault = Vaults.printed(40);
-        Vaults.forge(vault, 2, 2, 2, 40, 0);
-        Vaults.feedAll(vault, 2, 3);
+        Vault vault = new Vault();
+        Vaults.printAnew(vault, Collections.nCopies(40, 0));
+        Vaults.feedAll(vault, 2);
+        Vaults.printAnew(vault, Vaults.bytes(40));
+        Vaults.feedAll(vault, 3);
         vault.rebuild();
         int first = vault.out(0);
         Vaults.feedAll(vault, 0, 1);
         check.due("out(0) after more pages", () -> vault.out(0), first);
-        check.same("forged pages tell another byte", first == Vaults.byteAt(0), false);
+        check.same("pages of two documents tell another byte", first == Vaults.byteAt(0), false);
         vault.rebuild();
         check.due("out(0) after rebuild()", () -> vault.out(0), Vaults.byteAt(0));
         Vaults.printAnew(vault, Vaults.bytes(3));

@@ -3,7 +3,7 @@ public final class Promise13ResetTest {
     public static void main(String[] args) {
         Check check = new Check("promise 13");
         for (int pages = 0; pages <= 6; pages++) {
-            DotVault vault = Vaults.printed(80);
+            Vault vault = Vaults.printed(80);
             for (int page = 0; page < pages; page++) {
                 vault.feed(page, 1);
                 vault.feed(0, 2);
@@ -19,7 +19,7 @@ public final class Promise13ResetTest {
     }
 
     private static void readsAnotherDocument(Check check) {
-        DotVault vault = Vaults.printed(80);
+        Vault vault = Vaults.printed(80);
         Vaults.feedAll(vault, 0, 1, 2, 3);
         vault.rebuild();
         vault.reset();
@@ -33,13 +33,14 @@ public final class Promise13ResetTest {
     }
 
     private static void leavesTheRest(Check check) {
-        DotVault vault = Vaults.printed(30);
+        Vault vault = Vaults.printed(30);
         vault.flip(0, 3, 3);
-        String page = Vaults.picture(Vaults.dots(vault, 0));
+        boolean[][] page = Vaults.cleanDots(30, 0);
+        page[3][3] = !page[3][3];
         vault.feed(0, 0);
         String errors = Vaults.errorsOf(vault);
         check.due("reset()", () -> vault.reset(), 1);
-        check.due("the page", () -> Vaults.picture(Vaults.dots(vault, 0)), page);
+        check.due("the page", () -> Vaults.picture(vault, 0), Vaults.picture(page));
         check.due("the errors", () -> Vaults.errorsOf(vault), errors);
         check.due("the document", () -> vault.load(1), 31);
         check.due("feed(0, 0)", () -> vault.feed(0, 0), 0);

@@ -7,7 +7,7 @@ public final class RandomRunsTest {
 
     private final Check check;
     private final Random random;
-    private final DotVault vault = new DotVault();
+    private final Vault vault = new Vault();
     private final Model model = new Model();
     private final int run;
     private int pages = 0;
